@@ -29,6 +29,7 @@ public final class LaneDesk {
     private final int[] home = new int[MOST_LINES];
     private final int[] depth = new int[MOST_LINES];
     private final int[] closer = new int[MOST_BLOCKS];
+    // Of ELSE and END the IF, of AGAIN the LOOP, of others the line itself.
     private final int[] mate = new int[MOST_LINES];
     private final int[] operands = new int[LINE_SLOTS];
 
@@ -290,7 +291,7 @@ public final class LaneDesk {
             closer[block] = i;
             home[i] = home[opener];
             depth[i] = depth[opener];
-            mate[i] = kinds[opener] == ELSE ? mate[opener] : opener;
+            mate[i] = mate[opener];
             return kind == ELSE ? i + 1 : home[i];
         }
         home[i] = block;

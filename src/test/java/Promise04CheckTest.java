@@ -50,6 +50,9 @@ public final class Promise04CheckTest {
         wrong("LANE; IF 0; ELSE; IF 0; ELSE; IF 0; ELSE; IF 0; ELSE; LOOP", 1, 9);
         wrong("LANE; IF 0; IF 0; IF 0; IF 0; END; IF 0; ELSE; LOOP; AGAIN", 1, 8);
         wrong("LANE; IF 0; IF 0; IF 0; IF 0; END; IF 0; ELSE; END; END; END; END", 0, -1);
+        // The LOOP of a BREAK, and the block of an operand, can be four further out.
+        wrong("LANE; LOOP; IF 0; IF 0; IF 0; BREAK; NOT 0; OUT 0 0; END; END; END; AGAIN", 0, -1);
+        wrong("LANE; IF 0; IF 0; IF 0; IF 0; BREAK; END; END; END; END", 1, 5);
         // A fifth one deep is 1 although its operand is wrong, too.
         wrong("LANE; IF 0; IF 0; IF 0; IF 0; IF 99", 1, 5);
     }

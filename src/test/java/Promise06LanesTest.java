@@ -16,6 +16,7 @@ public final class Promise06LanesTest {
                 "0 0 0 0 0 0 0 0 0 0 0", "0 0 0 0 0 0 0 0 0 0 0", "0 0 0 0 0 0 0 0 0 0 0");
         rows("CONST 1; LANE; ADD 0 1; SUB 1 0; MUL 0 1; LESS 1 0; SAME 0 1; BOTH 1 0; NOT 1; ACROSS 1; DOWN 1",
                 "0 1 1 1 1 1 1 1 1 1 1", "0 0 0 0 0 0 0 0 0 0 0", "0 0 0 0 0 0 0 0 0 0 0");
+        rows("CONST 1; LANE; NOT 0; NOT 1; NOT 0; PICK 0 0 0; NOT 1", "0 1 0 1 0 0 1", "0 0 0 0 0 0 0", "0 0 0 0 0 0 0");
         rows("CONST 1; LANE; PICK 1 0 0; PICK 0 1 0; PICK 0 0 1; ANY 2; FIRST 2; NOT 6; OUT 0 7",
                 "0 1 1 1 1 0 0 0 -1", "0 0 0 0 0 0 0 0 0", "0 0 0 0 0 0 0 0 0");
         ifs();
@@ -65,6 +66,9 @@ public final class Promise06LanesTest {
                 "1 0 1 -1 -1 -1 1 -1", "0 0 0 0 1 0 0 0", "0 0 0 0 1 0 0 0");
         // FIRST makes it the same again, but not where some lanes are elsewhere.
         rows("LANE; FIRST 0; PUT 0 1; GET 0", "1 0 -1 0", "0 0 0 0", "0 0 0 0");
+        // A LOOP that is found to be not together makes an earlier GET varied.
+        rows("GET 0; CONST 1; LANE; LOOP; PUT 0 1; IF 2; BREAK; END; AGAIN",
+                "1 0 1 -1 -1 -1 -1 -1 -1", "0 0 0 0 1 1 1 1 0", "0 0 0 0 1 1 2 1 0");
         rows("LANE; IF 0; FIRST 0; PUT 0 2; END; GET 0", "1 -1 0 -1 -1 1", "0 0 1 1 0 0", "0 0 1 1 0 0");
         // As little as possible: what only feeds itself is not varied.
         rows("LOOP; GET 0; IF 1; BREAK; END; NOT 1; PUT 0 5; AGAIN",
@@ -72,6 +76,13 @@ public final class Promise06LanesTest {
     }
 
     private static void wrongOnes() {
+        // Nothing is left of what was found of lines that were wiped.
+        LaneDesk anew = Bench.desk("LANE; IF 0; PUT 0 0; PUT 1 0; PUT 2 0; PUT 3 0; LANE; END");
+        Bench.due("varied before", anew.lanes(0, 0), 1);
+        anew.wipe();
+        Bench.load(anew, "CONST 1; IF 0; GET 0; GET 1; GET 2; GET 3; CONST 1; END");
+        Bench.dueRow("varied anew", Bench.lanes(anew, 8, 0), "0 -1 0 0 0 0 0 -1");
+        Bench.dueRow("not together anew", Bench.lanes(anew, 8, 1), "0 0 0 0 0 0 0 0");
         LaneDesk desk = Bench.desk("LANE; IF 0; ACROSS 0; END");
         Bench.due("4 is wrong", desk.check(), 4);
         Bench.due("but varied is told", desk.lanes(2, 0), 1);

@@ -184,5 +184,14 @@ public final class Promise08ShorterTest {
         Bench.due("not needed yet", grows.shorter(0, 0), 0);
         Bench.load(grows, "OUT 0 0");
         Bench.due("needed now", grows.shorter(0, 0), 1);
+        // Nothing is left of what was found of lines that were wiped.
+        grows.wipe();
+        Bench.load(grows, "GET 0; OUT 0 0; GET 1; OUT 0 2; GET 2; OUT 0 4; GET 3; OUT 0 6; CONST 3; CONST 3");
+        Bench.dueRow("before", Bench.shorter(grows, 10, 0), "1 1 1 1 1 1 1 1 3 3");
+        grows.wipe();
+        Bench.load(grows, "LANE; PUT 0 0; GET 0; PUT 1 0; GET 1; PUT 2 0; GET 2; PUT 3 0; GET 3; GET 3");
+        Bench.dueRow("kinds anew", Bench.shorter(grows, 10, 0), "0 0 0 0 0 0 0 0 0 0");
+        Bench.dueRow("same anew", Bench.shorter(grows, 10, 1), "0 1 2 3 4 5 6 7 8 9");
+        Bench.dueRow("numbers anew", Bench.shorter(grows, 10, 2), "0 0 0 0 0 0 0 0 0 0");
     }
 }

@@ -52,6 +52,8 @@ public final class Promise10RunTest {
         ran("INPUT 2; DOWN 0; OUT 0 1", "-7 10 -7 10");
         ran("INPUT 2; ANY 0; OUT 0 1", "1 1 1 1");
         ran("LANE; CONST 9; LESS 1 0; ANY 2; OUT 0 3", "0 0 0 0");
+        ran("LANE; NOT 0; ANY 1; OUT 0 2", "1 1 1 1");
+        ran("LANE; CONST 3; SAME 0 1; ANY 2; OUT 0 3", "1 1 1 1");
         ran("INPUT 2; FIRST 0; OUT 0 1", "4 4 4 4");
         // Only those that are ON count for ANY and FIRST.
         ran("LANE; CONST 2; INPUT 2; LESS 0 1; IF 3; FIRST 2; OUT 0 5; ELSE; FIRST 2; OUT 0 8; END", "4 4 -3 -3");
@@ -125,6 +127,12 @@ public final class Promise10RunTest {
         Bench.dueRow("output 2", Bench.outs(desk, 2), "3 3 3 3");
         Bench.dueRow("variable 0 is put", Bench.keeps(desk, 0), "0 1 2 3");
         Bench.dueRow("variable 1 is not", Bench.keeps(desk, 1), "0 0 0 0");
+        LaneDesk full = new LaneDesk();
+        for (int i = 0; i < 48; i++) {
+            full.add(11, 0, 0, 0);
+        }
+        Bench.due("all 48 lines are passed over", full.run(true), LaneDesk.DONE);
+        Bench.dueRow("no step", Bench.states(full), "0 0 15 48 0");
         LaneDesk empty = Bench.desk("LANE; PUT 0 0; CONST 4");
         Bench.due("nothing is needed", empty.run(true), LaneDesk.DONE);
         Bench.dueRow("no step", Bench.states(empty), "0 0 15 3 0");
