@@ -266,21 +266,21 @@ public final class LaneDesk {
             case AGAIN:
                 return opener == LOOP;
             case BREAK:
-                return loopAround(block) != NONE;
+                return isInLoop(block);
             default:
                 return true;
         }
     }
 
-    private int loopAround(int block) {
+    private boolean isInLoop(int block) {
         int inner = block;
         for (int up = 0; up < DEEPEST && inner != 0; up++) {
             if (kinds[inner - 1] == LOOP) {
-                return inner - 1;
+                return true;
             }
             inner = home[inner - 1];
         }
-        return NONE;
+        return false;
     }
 
     // Notes where line i stands and answers the block that the line behind it is in.
