@@ -30,7 +30,7 @@ public final class ModelTest {
         Bench.end();
     }
 
-    private static int[][] makeInputs(Random random) {
+    static int[][] makeInputs(Random random) {
         int[][] inputs = new int[4][4];
         for (int k = 0; k < 4; k++) {
             for (int lane = 0; lane < 4; lane++) {
@@ -40,7 +40,7 @@ public final class ModelTest {
         return inputs;
     }
 
-    private static List<int[]> makeProgram(Random random, boolean wild) {
+    static List<int[]> makeProgram(Random random, boolean wild) {
         List<int[]> program = new ArrayList<>();
         List<List<Integer>> reach = new ArrayList<>();
         List<Integer> open = new ArrayList<>();
@@ -224,7 +224,7 @@ public final class ModelTest {
         }
     }
 
-    private static String tell(List<int[]> program) {
+    static String tell(List<int[]> program) {
         StringBuilder text = new StringBuilder();
         for (int[] line : program) {
             text.append(Bench.NAMES.get(line[0])).append(' ').append(line[1]).append(' ').append(line[2]).append(' ')
