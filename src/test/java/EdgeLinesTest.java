@@ -11,6 +11,7 @@ public final class EdgeLinesTest {
         sumsWrap();
         madeSumsWrap();
         differencesWrap();
+        differencesOfTheDropped();
         fourOfEach();
         constants();
         inputNumbers();
@@ -21,6 +22,7 @@ public final class EdgeLinesTest {
         any();
         first();
         take();
+        takeOfEachCell();
         takeByTheDropped();
         out();
         drop();
@@ -143,6 +145,20 @@ public final class EdgeLinesTest {
         Bench.due("the cell, past the greatest int once more", desk.kept(0, 7), LEAST + 4);
         desk = Bench.dueBothWays("INPUT 2; TAKE 3 0; OUT 0 1", "-2147483648 -1 0 0", NONE, "0 -2147483648 2147483647 2147483647");
         Bench.due("the cell, past the least int", desk.kept(0, 7), MOST);
+    }
+
+    private static void differencesOfTheDropped() {
+        String dropping = "INPUT 2; INPUT 3; IF 1; DROP; END; @ 0; PUT 0 5; GET 0; OUT 0 7";
+        Bench.sentence("12 ACROSS a: a of the right one less a of the left one of its row");
+        Bench.dueBothWays(dropping.replace("@", "ACROSS"), "1 10 100 1000", "0 0 0 0", "9 9 900 900");
+        LaneDesk desk = Bench.dueBothWays(dropping.replace("@", "ACROSS"), "1 10 100 1000", "1 0 0 1", "0 9 900 0");
+        Bench.dueRow("the dropped ones have it, too", Bench.keeps(desk, 0), "9 9 900 900");
+        Bench.dueBothWays("CONST 7; ACROSS 0; OUT 0 1", NONE, NONE, NONE);
+        Bench.sentence("13 DOWN a: of the lower one less that of the upper one");
+        Bench.dueBothWays(dropping.replace("@", "DOWN"), "1 10 100 1000", "0 0 0 0", "99 990 99 990");
+        desk = Bench.dueBothWays(dropping.replace("@", "DOWN"), "1 10 100 1000", "1 1 1 0", "0 0 0 990");
+        Bench.dueRow("the dropped ones have it, too", Bench.keeps(desk, 0), "99 990 99 990");
+        Bench.dueBothWays("CONST 7; DOWN 0; OUT 0 1", NONE, NONE, NONE);
     }
 
     private static void fourOfEach() {
@@ -274,6 +290,19 @@ public final class EdgeLinesTest {
         Bench.due("those that are not ON add nothing", desk.kept(0, 7), 1010);
         desk = Bench.dueBothWays("INPUT 2; TAKE 0 0; TAKE 0 1; OUT 0 2", "1 10 100 1000", NONE, "1111 1111 1112 1123");
         Bench.due("taken twice", desk.kept(3, 4), 1111 + 0 + 1 + 11 + 111);
+    }
+
+    private static void takeOfEachCell() {
+        Bench.sentence("16 TAKE a b: CELL a (0..3) as it is, which then becomes that and b together:");
+        for (int cell = 0; cell < 4; cell++) {
+            // What is taken is what was there before: at first 0, and at last all of it for none to take.
+            LaneDesk desk = Bench.dueBothWays("INPUT 2; TAKE " + cell + " 0; OUT 0 1", "3 4 5 6", NONE, "0 3 7 12");
+            for (int other = 0; other < 4; other++) {
+                Bench.due("cell " + other, desk.kept(0, 4 + other), other == cell ? 18 : 0);
+            }
+            desk = Bench.dueBothWays("CONST 0; TAKE " + cell + " 0; OUT 0 1", NONE, NONE, NONE);
+            Bench.due("nothing was added to cell " + cell, desk.kept(0, 4 + cell), 0);
+        }
     }
 
     private static void takeByTheDropped() {

@@ -13,6 +13,7 @@ public final class EdgePromises01To05Test {
         addFull();
         otherNumbers();
         wipe();
+        wipeOfAllThatWasFound();
         check();
         place();
         askedAgain();
@@ -183,6 +184,28 @@ public final class EdgePromises01To05Test {
         Bench.load(desk, "LANE; BREAK");
         Bench.due("the LOOP is gone", desk.check(), 1);
         Bench.due("at the BREAK", desk.place(), 1);
+    }
+
+    /** What is told of the lines behind a wipe is what a new object tells of them. */
+    private static void wipeOfAllThatWasFound() {
+        Bench.sentence("No LINES are left: how many there were.");
+        String before = "LANE; CONST 9; IF 0; GET 0; PUT 0 1; PUT 1 0; PUT 2 0; PUT 3 0; ELSE; GET 1; OUT 0 9; GET 2; OUT 0 11; GET 3; OUT 0 13;"
+                + " END; CONST 9; LOOP; IF 0; BREAK; END; AGAIN; GET 0; OUT 1 22";
+        String[] behind = {"CONST 1; GET 0; IF 1; GET 1; PUT 0 0; LANE; GET 2; GET 3; ELSE; GET 0; PUT 1 9; END; LOOP; NOT 0; BREAK; AGAIN; GET 3",
+            "GET 0; GET 1; GET 2; GET 3; PUT 0 0; PUT 1 1; PUT 2 2; PUT 3 3; INPUT 0; INPUT 1; NOT 8; NOT 9; ADD 8 9; ACROSS 8; DOWN 9; PUT 0 8",
+            "LANE; LANE; NOT 0; NOT 1; PICK 0 2 3; LESS 0 2; LOOP; IF 0; ANY 0; END; BREAK; AGAIN; FIRST 0; PUT 3 12; GET 3; PUT 2 14"};
+        for (String program : behind) {
+            int lines = program.split(";").length;
+            LaneDesk desk = Bench.desk(before);
+            Bench.due("check before", desk.check(), 0);
+            Bench.due("the first run", desk.run(false), LaneDesk.LONG);
+            Bench.due("wipe", desk.wipe(), 24);
+            Bench.load(desk, program);
+            LaneDesk fresh = Bench.desk(program);
+            Bench.dueRow("of " + program, Bench.looked(desk, lines), Bench.looked(fresh, lines));
+            Bench.due("run of it", desk.run(true), fresh.run(true));
+            Bench.dueRow("told of it", Bench.told(desk), Bench.told(fresh));
+        }
     }
 
     private static void check() {

@@ -4,6 +4,7 @@ public final class EdgePromises06To08Test {
     private static final String[] WRONG_1_TO_3 = {"LANE; END", "LANE; NOT 1", "LANE; IF 0; LANE; END; NOT 2", "LANE; LOOP"};
 
     public static void main(String[] args) {
+        lanesTogether();
         lanesDepths();
         lanesOfNoLine();
         lanesOfWrong();
@@ -15,6 +16,14 @@ public final class EdgePromises06To08Test {
         shorterNumbers();
         shorterBad();
         Bench.end();
+    }
+
+    private static void lanesTogether() {
+        Bench.sentence("1: 1 if it is not TOGETHER, else 0");
+        LaneDesk desk = Bench.desk("LANE; CONST 1; IF 1; DROP; ELSE; IF 0; DROP; PUT 0 0; LANE; ELSE; OUT 0 0; END; END; LOOP; BREAK; AGAIN");
+        Bench.dueRow("not together", Bench.lanes(desk, 16, 1), "0 0 0 0 0 0 1 1 1 0 1 0 0 0 0 0");
+        Bench.sentence("Of LINE i what 0: 1 if its VALUE is VARIED, else 0");
+        Bench.dueRow("varied", Bench.lanes(desk, 16, 0), "1 0 -1 -1 -1 -1 -1 -1 1 -1 -1 -1 -1 -1 -1 -1");
     }
 
     private static void lanesDepths() {

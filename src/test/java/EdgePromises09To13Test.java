@@ -15,6 +15,7 @@ public final class EdgePromises09To13Test {
         keptOfNone();
         keptInTheEnd();
         stateOfOthers();
+        stateSteps();
         stateOn();
         stateOnAtTheEndOfAPart();
         stateNextLine();
@@ -197,6 +198,23 @@ public final class EdgePromises09To13Test {
             }
             desk.run(false);
         }
+    }
+
+    private static void stateSteps() {
+        Bench.sentence("Of the latest run what 0: STEPS; 1: LANES that are DROPPED, as bits");
+        LaneDesk desk = Bench.desk("LANE; DROP; OUT 0 0");
+        Bench.due("before any run", desk.state(0), 0);
+        desk.run(false);
+        Bench.dueRow("of the first run", Bench.states(desk), "3 15 15 3 0");
+        desk.run(false);
+        Bench.dueRow("of the second one alone", Bench.states(desk), "3 15 15 3 0");
+        desk.wipe();
+        Bench.load(desk, "LOOP; AGAIN");
+        desk.run(false);
+        Bench.dueRow("at most 400", Bench.states(desk), "400 0 15 1 399");
+        desk.wipe();
+        desk.run(false);
+        Bench.dueRow("none", Bench.states(desk), "0 0 15 0 0");
     }
 
     private static void stateOn() {

@@ -180,8 +180,11 @@ public final class EdgeShorterTest {
         // Another op with the same operands is another line.
         last("LANE; INPUT 2; ADD 0 1; BOTH 0 1", 0, 3, 0);
         last("LANE; ACROSS 0; DOWN 0", 0, 2, 0);
-        // The first such one.
+        Bench.sentence("Else, if an earlier LINE, with no SAME of its own");
         rows("LANE; NOT 0; NOT 0; LANE; NOT 3; NOT 3", "0 0 2 2 2 2", "0 1 1 0 1 1", "0 0 0 0 0 0");
+        rows("CONST 3; CONST 3; CONST 3; NOT 2; NOT 1", "3 3 3 3 3", "0 0 0 3 3", "3 3 3 0 0");
+        // What was found by the rules before stands: x, although a line of the same op and operands is there.
+        rows("LANE; CONST 0; ADD 0 1; ADD 0 1", "0 3 2 2", "0 1 0 0", "0 0 0 0");
     }
 
     private static void turnedRound() {
